@@ -928,22 +928,20 @@ public final class EnoughServers {
          */
         private int leastValue(int n, int count, int ready, int foreseen) {
             int near = cut(target, 10);
-            int from = 0;
-            int to = target - near - 1;
+            int last = target - near - 1;
             for (int part = 0; part < 3; part++) {
-                if (wantBy(to, count, ready, foreseen) >= n) {
-                    return leastBetween(from, to, n, count, ready, foreseen);
+                if (wantBy(last, count, ready, foreseen) >= n) {
+                    return leastUpTo(last, n, count, ready, foreseen);
                 }
-                from = to + 1;
-                to = part == 0 ? target + near : MOST_VALUE;
+                last = part == 0 ? target + near : MOST_VALUE;
             }
             return NONE;
         }
 
-        /** By halves, knowing that the last VALUE of these wants n or more. */
-        private int leastBetween(int from, int to, int n, int count, int ready, int foreseen) {
-            int low = from;
-            int high = to;
+        /** By halves: the last VALUE wants n or more, and none does of the parts before that which it ends. */
+        private int leastUpTo(int last, int n, int count, int ready, int foreseen) {
+            int low = 0;
+            int high = last;
             for (int i = 0; i < 14 && low < high; i++) {
                 int middle = (low + high) / 2;
                 if (wantBy(middle, count, ready, foreseen) >= n) {

@@ -13,6 +13,7 @@ public final class TriedTest {
         until();
         needs();
         needsOfAnAverage();
+        needsByTrying();
         refusals();
         nothingChanges();
         c.end("TriedTest");
@@ -141,6 +142,12 @@ public final class TriedTest {
         // One in four rounds, READY in the next one: the 13th in round 48, the first behind round 0.
         c.due("the thirteenth", y.until(0, 13), 49);
         c.due("the fourteenth", y.until(0, 14), NONE);
+        EnoughServers z = Check.with("h60,2,0,0,2;s0,20,0,1,1,1,0,9,4;t1;");
+        z.load(0, 0, 20);
+        c.due("in the last round that is looked at", z.until(0, 13), 50);
+        EnoughServers late = Check.with("h60,3,0,0,2;s0,20,0,1,1,1,0,9,4;t1;");
+        late.load(0, 0, 20);
+        c.due("in the one behind it", late.until(0, 13), NONE);
     }
 
     private static void needs() {
@@ -180,6 +187,29 @@ public final class TriedTest {
         c.due("8, far above", x.needs(0, 0, 8), 117);
         EnoughServers y = Check.with("h20,3,0,0,2;s0,20,0,1,1,9,0,9,1;a99;");
         c.due("none READY", y.needs(0, 0, 99), 98 * 99 + 1);
+    }
+
+    /** Every VALUE told, for every TARGET and KIND, with servers that are READY, and with such that are STARTING. */
+    private static void needsByTrying() {
+        for (int target = 1; target <= 99; target++) {
+            for (char sort : new char[] {'t', 'a', 'q'}) {
+                for (int least = 0; least <= 4; least += 2) {
+                    EnoughServers x = Check.with("h20,3,0,0,2;s" + least + ",20,0,1,1,3,0,9,1;" + sort + target + ";");
+                    tryAll(x);
+                    x.load(0, 0, 800);
+                    x.round();
+                    tryAll(x);
+                }
+            }
+        }
+    }
+
+    private static void tryAll(EnoughServers x) {
+        int n = 0;
+        for (int value = 0; value <= 250; value++) {
+            x.load(0, 0, value);
+            for (int want = x.would(0, 0); n <= want && n <= 99; n++) c.due("needs " + n, x.needs(0, 0, n), value);
+        }
     }
 
     private static void refusals() {
