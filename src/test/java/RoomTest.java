@@ -30,7 +30,7 @@ public final class RoomTest {
     }
 
     private static void dearest(EnoughServers x) {
-        for (int i = 0; i < 40; i++) {
+        for (int i = 0; i < 28; i++) {
             x.load(0, 0, i * 7);
             x.load(0, 1, i * 3);
             x.set(1, 2, i % 9);

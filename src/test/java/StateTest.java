@@ -58,12 +58,16 @@ public final class StateTest {
     }
 
     private static void pastOfEighteen() {
-        EnoughServers x = Check.with(TWO);
-        for (int i = 0; i < 70; i++) {
-            x.load(0, 0, i);
-            x.round();
-            c.due("rounds", x.measure(0, 0, 4), Math.min(18, i + 1));
-            for (int k = 0; k < 18; k++) c.due("value " + k + " ahead", x.measure(0, 0, 10 + k), i - k < 0 ? OUTSIDE : i - k);
+        for (int rounds = 1; rounds <= 70; rounds++) {
+            EnoughServers x = Check.with(TWO);
+            for (int i = 0; i < rounds; i++) {
+                x.load(0, 0, i);
+                x.round();
+            }
+            c.due("rounds", x.measure(0, 0, 4), Math.min(18, rounds));
+            for (int k = 0; k < 18; k++) {
+                c.due("value " + k + " ahead", x.measure(0, 0, 10 + k), k < rounds ? rounds - 1 - k : OUTSIDE);
+            }
             c.due("no nineteenth", x.measure(0, 0, 28), OUTSIDE);
         }
     }

@@ -65,30 +65,16 @@ public final class TextTest {
         c.due("one more, no byte", x.write(256), EnoughServers.OUTSIDE);
         c.due("count(10)", x.count(10), 160);
         c.due("house()", x.house(), 1);
-        for (int i = 0; i < 160; i++) x.write('9');
-        c.due("a long row of figures", x.house(), -100);
-        c.due("its fault", x.fault(), 1);
-        x.write('h');
-        for (int i = 1; i < 160; i++) x.write('0');
-        c.due("figures of 159 digits", x.house(), -101);
-        c.due("their fault", x.fault(), 2);
-        for (int i = 0; i < 160; i++) x.write(' ');
-        c.due("blanks alone", x.house(), -260);
-    }
-
-    private static void reads(String text, int answer, int fault) {
-        EnoughServers x = new EnoughServers();
-        c.due("'" + text + "' house()", Check.read(x, text), answer);
-        c.due("'" + text + "' fault()", x.fault(), fault);
-        c.due("'" + text + "' count(10)", x.count(10), 0);
-        c.due("'" + text + "' count(1)", x.count(1), fault == 0 ? answer : EnoughServers.UNKNOWN);
+        c.reads("9".repeat(160), -100, 1);
+        c.reads("h" + "0".repeat(159), -101, 2);
+        c.reads(" ".repeat(160), -260, 1);
     }
 
     private static void goodTexts() {
-        reads(ONE, 1, 0);
-        reads("  h 9 , 3,1 ,1,4 ;  s 01,09,1,1,1,1,1,1,1 ; t 5 ;  ", 1, 0);
-        reads("h60,6,9,3,6;s9,20,9,6,6,9,99,9,4;t99;f99;a99;s9,9,0,1,1,0,0,0,1;q1;", 2, 0);
-        reads("h1,1,0,0,2;s0,1,0,1,1,0,0,0,1;s1,1,0,1,1,0,0,0,1;s0,1,0,1,1,0,0,0,1;s0,1,0,1,1,0,0,0,1;", 4, 0);
+        c.reads(ONE, 1, 0);
+        c.reads("  h 9 , 3,1 ,1,4 ;  s 01,09,1,1,1,1,1,1,1 ; t 5 ;  ", 1, 0);
+        c.reads("h60,6,9,3,6;s9,20,9,6,6,9,99,9,4;t99;f99;a99;s9,9,0,1,1,0,0,0,1;q1;", 2, 0);
+        c.reads("h1,1,0,0,2;s0,1,0,1,1,0,0,0,1;s1,1,0,1,1,0,0,0,1;s0,1,0,1,1,0,0,0,1;s0,1,0,1,1,0,0,0,1;", 4, 0);
         EnoughServers x = Check.with("h37,5,7,2,3;s2,18,4,5,6,8,67,3,2;t11;f22;a33;s1,9,0,1,1,0,0,0,1;q44;");
         int[] house = {37, 5, 7, 2, 3};
         for (int i = 0; i < 5; i++) c.due("count " + (4 + i), x.count(4 + i), house[i]);
@@ -103,88 +89,88 @@ public final class TextTest {
     }
 
     private static void cannotStandThere() {
-        reads("", -100, 1);
-        reads(" ", -101, 1);
-        reads("H", -100, 1);
-        reads("s", -100, 1);
-        reads("h", -101, 1);
-        reads("h;", -101, 1);
-        reads("h9 ", -103, 1);
-        reads("h9 9", -103, 1);
-        reads("h9,3,1,1,4,", -110, 1);
-        reads(HOUSE, -111, 1);
-        reads(HOUSE + "  ", -113, 1);
-        reads(HOUSE + "t", -111, 1);
-        reads(HOUSE + "h", -111, 1);
-        reads(HOUSE + "s-1", -112, 1);
-        reads(HOUSE + "s1,9;", -115, 1);
-        reads(ONE + "x", -130, 1);
-        reads(ONE + "h", -130, 1);
-        reads(ONE + ";", -130, 1);
-        reads(ONE + "7", -130, 1);
-        reads(ONE + "t", -131, 1);
-        reads(ONE + "t;", -131, 1);
-        reads(ONE + "t5", -132, 1);
-        reads(ONE + "t5,", -132, 1);
-        reads(ONE + "t5; s", -135, 1);
-        reads("h9\t", -102, 1);
+        c.reads("", -100, 1);
+        c.reads(" ", -101, 1);
+        c.reads("H", -100, 1);
+        c.reads("s", -100, 1);
+        c.reads("h", -101, 1);
+        c.reads("h;", -101, 1);
+        c.reads("h9 ", -103, 1);
+        c.reads("h9 9", -103, 1);
+        c.reads("h9,3,1,1,4,", -110, 1);
+        c.reads(HOUSE, -111, 1);
+        c.reads(HOUSE + "  ", -113, 1);
+        c.reads(HOUSE + "t", -111, 1);
+        c.reads(HOUSE + "h", -111, 1);
+        c.reads(HOUSE + "s-1", -112, 1);
+        c.reads(HOUSE + "s1,9;", -115, 1);
+        c.reads(ONE + "x", -130, 1);
+        c.reads(ONE + "h", -130, 1);
+        c.reads(ONE + ";", -130, 1);
+        c.reads(ONE + "7", -130, 1);
+        c.reads(ONE + "t", -131, 1);
+        c.reads(ONE + "t;", -131, 1);
+        c.reads(ONE + "t5", -132, 1);
+        c.reads(ONE + "t5,", -132, 1);
+        c.reads(ONE + "t5; s", -135, 1);
+        c.reads("h9\t", -102, 1);
     }
 
     private static void numbersNotAsTold() {
-        reads("h0,", -101, 2);
-        reads("h61,", -101, 2);
-        reads("h001,", -101, 2);
-        reads("h 060", -102, 2);
-        reads("h9,0", -103, 2);
-        reads("h9,7", -103, 2);
-        reads("h9,1,10", -105, 2);
-        reads("h9,1,1,4", -107, 2);
-        reads("h9,1,1,1,1", -109, 2);
-        reads("h9,1,1,1,7", -109, 2);
-        reads(HOUSE + "s10,", -112, 2);
-        reads(HOUSE + "s0,0", -114, 2);
-        reads(HOUSE + "s3,2", -114, 2);
-        reads(HOUSE + "s3,21", -114, 2);
-        reads(HOUSE + "s3,3,10", -116, 2);
-        reads(HOUSE + "s3,3,1,0", -118, 2);
-        reads(HOUSE + "s3,3,1,7", -118, 2);
-        reads(HOUSE + "s3,3,1,1,0", -120, 2);
-        reads(HOUSE + "s3,3,1,1,7", -120, 2);
-        reads(HOUSE + "s3,3,1,1,1,10", -122, 2);
-        reads(HOUSE + "s3,3,1,1,1,1,100", -124, 2);
-        reads(HOUSE + "s3,3,1,1,1,1,1,10", -126, 2);
-        reads(HOUSE + "s3,3,1,1,1,1,1,1,0", -128, 2);
-        reads(HOUSE + "s3,3,1,1,1,1,1,1,5", -128, 2);
-        reads(ONE + "t0;", -131, 2);
-        reads(ONE + "q100;", -131, 2);
-        reads(ONE + "a005;", -131, 2);
+        c.reads("h0,", -101, 2);
+        c.reads("h61,", -101, 2);
+        c.reads("h001,", -101, 2);
+        c.reads("h 060", -102, 2);
+        c.reads("h9,0", -103, 2);
+        c.reads("h9,7", -103, 2);
+        c.reads("h9,1,10", -105, 2);
+        c.reads("h9,1,1,4", -107, 2);
+        c.reads("h9,1,1,1,1", -109, 2);
+        c.reads("h9,1,1,1,7", -109, 2);
+        c.reads(HOUSE + "s10,", -112, 2);
+        c.reads(HOUSE + "s0,0", -114, 2);
+        c.reads(HOUSE + "s3,2", -114, 2);
+        c.reads(HOUSE + "s3,21", -114, 2);
+        c.reads(HOUSE + "s3,3,10", -116, 2);
+        c.reads(HOUSE + "s3,3,1,0", -118, 2);
+        c.reads(HOUSE + "s3,3,1,7", -118, 2);
+        c.reads(HOUSE + "s3,3,1,1,0", -120, 2);
+        c.reads(HOUSE + "s3,3,1,1,7", -120, 2);
+        c.reads(HOUSE + "s3,3,1,1,1,10", -122, 2);
+        c.reads(HOUSE + "s3,3,1,1,1,1,100", -124, 2);
+        c.reads(HOUSE + "s3,3,1,1,1,1,1,10", -126, 2);
+        c.reads(HOUSE + "s3,3,1,1,1,1,1,1,0", -128, 2);
+        c.reads(HOUSE + "s3,3,1,1,1,1,1,1,5", -128, 2);
+        c.reads(ONE + "t0;", -131, 2);
+        c.reads(ONE + "q100;", -131, 2);
+        c.reads(ONE + "a005;", -131, 2);
     }
 
     private static void tooMany() {
-        reads(ONE + "t1;f1;a1;q1;", -139, 3);
-        reads(ONE + "t1;f1;a1;  q", -141, 3);
+        c.reads(ONE + "t1;f1;a1;q1;", -139, 3);
+        c.reads(ONE + "t1;f1;a1;  q", -141, 3);
         String four = HOUSE;
         for (int i = 0; i < 4; i++) four += "s1," + NUMBERS;
-        reads(four, 4, 0);
-        reads(four + "s", -100 - four.length(), 3);
-        reads(four + "t1;t1;t1;", 4, 0);
-        reads(four + "t1;t1;t1;s", -100 - four.length() - 9, 3);
-        reads(four + "t1;t1;t1;t", -100 - four.length() - 9, 3);
-        reads(four + "t1;t1;t1;x", -100 - four.length() - 9, 1);
+        c.reads(four, 4, 0);
+        c.reads(four + "s", -100 - four.length(), 3);
+        c.reads(four + "t1;t1;t1;", 4, 0);
+        c.reads(four + "t1;t1;t1;s", -100 - four.length() - 9, 3);
+        c.reads(four + "t1;t1;t1;t", -100 - four.length() - 9, 3);
+        c.reads(four + "t1;t1;t1;x", -100 - four.length() - 9, 1);
     }
 
     private static void leastsTogether() {
-        reads("h4,3,1,1,4;s5,9", -112, 4);
-        reads(HOUSE + "s5," + NUMBERS + "s4," + NUMBERS, 2, 0);
-        reads(HOUSE + "s5," + NUMBERS + "s5,x", -131, 4);
-        reads(HOUSE + "s4," + NUMBERS + "t1;s3," + NUMBERS + "s3," + NUMBERS, -153, 4);
+        c.reads("h4,3,1,1,4;s5,9", -112, 4);
+        c.reads(HOUSE + "s5," + NUMBERS + "s4," + NUMBERS, 2, 0);
+        c.reads(HOUSE + "s5," + NUMBERS + "s5,x", -131, 4);
+        c.reads(HOUSE + "s4," + NUMBERS + "t1;s3," + NUMBERS + "s3," + NUMBERS, -153, 4);
     }
 
     private static void leastFaultOfOneToken() {
-        reads("123", -100, 1);
-        reads("h1,1,0,0,2;s10", -112, 2);
-        reads("h9,77,", -103, 2);
-        reads(ONE + "123", -130, 1);
+        c.reads("123", -100, 1);
+        c.reads("h1,1,0,0,2;s10", -112, 2);
+        c.reads("h9,77,", -103, 2);
+        c.reads(ONE + "123", -130, 1);
     }
 
     private static void aFaultChangesNothing() {

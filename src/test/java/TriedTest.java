@@ -194,19 +194,27 @@ public final class TriedTest {
         for (int target = 1; target <= 99; target++) {
             for (char sort : new char[] {'t', 'a', 'q'}) {
                 for (int least = 0; least <= 4; least += 2) {
-                    EnoughServers x = Check.with("h20,3,0,0,2;s" + least + ",20,0,1,1,3,0,9,1;" + sort + target + ";");
-                    tryAll(x);
-                    x.load(0, 0, 800);
-                    x.round();
-                    tryAll(x);
+                    String text = "h20,3,0,0,2;s" + least + ",20,0,1,1,3,0,9,1;" + sort + target + ";";
+                    tryAll(x -> Check.read(x, text));
+                    tryAll(x -> {
+                        Check.read(x, text);
+                        x.load(0, 0, 800);
+                        x.round();
+                    });
                 }
             }
         }
     }
 
-    private static void tryAll(EnoughServers x) {
+    /** A new object for every hundred VALUES: none is used for more than 512 calls. */
+    private static void tryAll(Seen.Calls calls) {
+        EnoughServers x = new EnoughServers();
         int n = 0;
         for (int value = 0; value <= 250; value++) {
+            if (value % 100 == 0) {
+                x = new EnoughServers();
+                calls.on(x);
+            }
             x.load(0, 0, value);
             for (int want = x.would(0, 0); n <= want && n <= 99; n++) c.due("needs " + n, x.needs(0, 0, n), value);
         }
