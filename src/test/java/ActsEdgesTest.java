@@ -16,6 +16,7 @@ public final class ActsEdgesTest {
         setOfNoService();
         leastAboveMost();
         leastsAboveCapacity();
+        leastsBehindTries();
         leastsOfOthers();
         setChangesNoServers();
         undoNothing();
@@ -28,6 +29,8 @@ public final class ActsEdgesTest {
         undoneActsAreGone();
         undoIsNoAct();
         undoBringsAllBack();
+        undoBringsMovesBack();
+        undoBringsWindowsAndStepsBack();
         undoBehindManyRounds();
         c.end("ActsEdgesTest");
     }
@@ -159,6 +162,20 @@ public final class ActsEdgesTest {
         c.due("LEAST 1, CAPACITY 1", one.set(0, 0, 1), 0);
         EnoughServers all = Check.with("h36,3,2,1,4;s0,9,3,2,2,3,4,5,2;s9,9,3,2,2,3,4,5,2;s9,9,3,2,2,3,4,5,2;s9,9,3,2,2,3,4,5,2;");
         c.due("LEASTS 36", all.set(0, 0, 9), 0);
+    }
+
+    /** A REPLAY is in a house of 60, a text with a FAULT may tell another CAPACITY: neither is this HOUSE's. */
+    private static void leastsBehindTries() {
+        c.of("LEASTS together more than CAPACITY");
+        EnoughServers x = Check.with("h9,3,2,1,4;s2,20,3,2,2,3,4,5,2;t1;s1,20,3,2,2,3,4,5,2;");
+        x.replay(0, 1, 1, 0);
+        c.due("LEASTS 10 behind replay()", x.set(0, 0, 9), NOT);
+        x.best(0);
+        c.due("LEASTS 10 behind best()", x.set(0, 0, 9), NOT);
+        Check.read(x, "h60,3,2,1,4;s9,x");
+        c.due("LEASTS 10 behind a text of CAPACITY 60", x.set(0, 0, 9), NOT);
+        Check.read(x, "h1,3,2,1,4;s1,20,x");
+        c.due("LEASTS 9 behind a text of CAPACITY 1", x.set(0, 0, 8), 2);
     }
 
     /** MOST is no matter of CAPACITY, nor is any other number. */
@@ -335,19 +352,6 @@ public final class ActsEdgesTest {
         c.due("fault()", x.fault(), 1);
     }
 
-    private static final String THREE =
-        "h14,3,3,1,3;s1,12,3,2,3,4,50,3,3;f5;q4;s0,9,5,1,2,3,99,9,2;a9;s2,4,0,1,1,1,1,1,1;";
-    private static final int[] LOADS = {3, 40, 41, 90, 12, 0, 77, 5, 60, 33, 99, 1, 20};
-
-    private static void play(EnoughServers x, int from, int to) {
-        for (int i = from; i < to; i++) {
-            x.load(0, 0, LOADS[i % 13]);
-            x.load(0, 1, LOADS[(i + 5) % 13] / 10);
-            x.load(1, 0, LOADS[(i + 2) % 13] / 3);
-            x.round();
-        }
-    }
-
     private static void someActs(EnoughServers x) {
         x.load(0, 0, 66);
         x.round();
@@ -369,25 +373,22 @@ public final class ActsEdgesTest {
     private static void undoBringsAllBack() {
         c.of("The latest ACT is undone");
         for (int rounds = 0; rounds <= 8; rounds += 4) {
-            int done = rounds;
-            EnoughServers x = Check.with(THREE);
-            play(x, 0, done);
+            EnoughServers x = Three.played(rounds);
+            EnoughServers y = Three.played(rounds);
             someActs(x);
-            EnoughServers y = Check.with(THREE);
-            play(y, 0, done);
             undoAll(x, 10);
             sameAnswers(x, y);
-            play(x, 8, 12);
-            play(y, 8, 12);
+            Three.play(x, 8, 12);
+            Three.play(y, 8, 12);
             sameAnswers(x, y);
         }
         c.alike("four done, three of them undone and done again",
             x -> {
-                Check.read(x, THREE);
+                Check.read(x, Three.TEXT);
                 someActs(x);
             },
             x -> {
-                Check.read(x, THREE);
+                Check.read(x, Three.TEXT);
                 someActs(x);
                 undoAll(x, 3);
                 x.load(0, 1, 0);
@@ -396,15 +397,54 @@ public final class ActsEdgesTest {
             });
     }
 
+    private static void undoBringsMovesBack() {
+        c.of("The latest ACT is undone");
+        EnoughServers x = Check.with("h60,1,0,0,2;s0,20,0,1,1,9,0,9,1;t1;");
+        x.load(0, 0, 4);
+        x.round();
+        x.load(0, 0, 2);
+        x.round();
+        c.due("it gave up two", x.service(0, 15), 1);
+        x.undo();
+        c.due("undone", x.service(0, 15), 0);
+        x.load(0, 0, 6);
+        x.round();
+        c.due("it got some behind getting some", x.service(0, 15), 0);
+        x.load(0, 0, 5);
+        x.round();
+        x.undo();
+        x.undo();
+        x.undo();
+        x.load(0, 0, 1);
+        x.round();
+        c.due("it gave up three behind getting four", x.service(0, 15), 1);
+    }
+
+    private static void undoBringsWindowsAndStepsBack() {
+        c.of("The latest ACT is undone");
+        EnoughServers x = Check.with("h60,1,0,0,2;s0,20,0,2,2,9,0,2,2;t1;");
+        int[] loads = {9, 9, 9, 4};
+        for (int load : loads) {
+            x.load(0, 0, load);
+            x.round();
+        }
+        c.due("the window keeps 9", x.count(2), 9);
+        x.round();
+        c.due("two are given up", x.count(2), 7);
+        x.undo();
+        c.due("STEADY, by WANTS 4, 4", x.would(0, 1), 4);
+        c.due("BOUND, nothing being LOST", x.would(0, 2), 7);
+        x.undo();
+        c.due("STEADY, by WANTS 9, 4", x.would(0, 1), 9);
+    }
+
     /** 28 ROUNDS must be kept, so that 18 are left in the PAST when ten are undone. */
     private static void undoBehindManyRounds() {
         c.of("PAST .. (18 at most); ACTS (10 at most are kept");
         int[] rounds = {7, 8, 17, 18, 19, 30, 33};
         for (int done : rounds) {
-            EnoughServers x = Check.with(THREE);
-            EnoughServers y = Check.with(THREE);
-            play(x, 0, done);
-            play(y, 0, done);
+            EnoughServers x = Three.played(done);
+            EnoughServers y = Three.played(done);
             Check.rounds(x, 10);
             undoAll(x, 10);
             sameAnswers(x, y);

@@ -197,7 +197,7 @@ public final class RefusalsTest {
     }
 
     private static void whatIsTriedChangesNothing() {
-        c.of("Ahead of the calls would, why, forecast, ahead, until, needs, replay, best the interface says: tried.");
+        c.of("---- tried");
         c.alike("a HOUSE", RefusalsTest::begin, x -> {
             begin(x);
             triedCalls(x);
@@ -227,7 +227,7 @@ public final class RefusalsTest {
     }
 
     private static void whatIsAskedChangesNothing() {
-        c.of("Ahead of the calls service, measure, starting, count the interface says: what there is.");
+        c.of("---- what there is");
         c.alike("a HOUSE", RefusalsTest::begin, x -> {
             begin(x);
             for (int what = 0; what <= 15; what++) x.service(1, what);
@@ -240,7 +240,7 @@ public final class RefusalsTest {
 
     /** Any numbers in any state: an exception would end the test. */
     private static void nothingThrows() {
-        c.of("the Java machine itself never throws");
+        c.of("LANGUAGE.md, rule 7: No call may ever throw or fail to end, for any arguments in any state");
         for (int rounds = 0; rounds <= 40; rounds += 8) {
             for (int a : FAR) {
                 EnoughServers x = Check.with(TEXT);

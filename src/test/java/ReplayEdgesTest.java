@@ -14,6 +14,7 @@ public final class ReplayEdgesTest {
         fromLeastAllReady();
         noWantsAhead();
         noStepsAhead();
+        nothingOfOtherTries();
         noMovesAhead();
         alone();
         sixtyServers();
@@ -153,6 +154,29 @@ public final class ReplayEdgesTest {
         replays(x, 1, 1, 9, 3 + 3 + 6, 0);
         play(x, 9, 9);
         replays(x, 1, 1, 3 + 3 + 3 + 3 + 6, 3 + 3 + 6 + 6 + 6, 0);
+    }
+
+    /** What another REPLAY, or what else was tried, has given up does not count for this one's steps, windows, moves. */
+    private static void nothingOfOtherTries() {
+        c.of("nothing done ahead");
+        String service = "s0,20,0,1,1,9,0,3,4;t1;";
+        EnoughServers x = Check.with("h60,1,0,0,2;" + service + "s0,20,0,6,6,9,0,9,1;t1;");
+        int[] first = {6, 3, 3, 3};
+        int[] second = {9, 9, 6, 3};
+        for (int i = 0; i < 4; i++) {
+            x.load(1, 0, second[i]);
+            play(x, first[i]);
+        }
+        c.due("SPENT of the other", x.replay(1, 1, 1, 0), 27);
+        replays(x, 1, 1, 15, 6, 1);
+        c.due("SPENT of the other", x.replay(1, 6, 6, 0), 36);
+        replays(x, 6, 6, 24, 6, 0);
+        x.ahead(50, 0);
+        replays(x, 1, 1, 15, 6, 1);
+        x.load(0, 0, 0);
+        x.until(0, 20);
+        replays(x, 1, 1, 15, 6, 1);
+        c.due("SPENT of the other", x.replay(1, 1, 1, 0), 27);
     }
 
     private static void noMovesAhead() {
@@ -343,7 +367,7 @@ public final class ReplayEdgesTest {
     }
 
     private static void refused() {
-        c.of("replay, best .. UNKNOWN, OUTSIDE");
+        c.of("REPLAY by u, d: what = 0 SPENT, 1 LACK, 2 FLUTTERS. UNKNOWN, OUTSIDE.");
         EnoughServers x = played("h60,1,0,0,2;s0,20,0,1,1,9,0,9,1;t1;s0,20,0,1,1,9,0,9,1;", 3, 3);
         int[] services = {-1, 2, 3, 4, FAR[0], FAR[1]};
         for (int s : services) {

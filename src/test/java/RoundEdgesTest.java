@@ -21,12 +21,14 @@ public final class RoundEdgesTest {
         floor();
         floorAboveCount();
         steadyAsCount();
+        countNotReady();
         dueByLeast();
         dueByMost();
         givesUpLastFirst();
         givesUpReadyOnes();
         getsByRank();
         getsByFractions();
+        getsByCountNotByReady();
         getsByNumber();
         getsAsItLacks();
         capacityThen();
@@ -80,7 +82,7 @@ public final class RoundEdgesTest {
     }
 
     private static void upWindow() {
-        c.of("UP of them (the latest) and the least of these: the least, if COUNT is less than that");
+        c.of("UP of them (the latest) and the least of these .. the least, if COUNT is less than that");
         for (int up = 1; up <= 6; up++) {
             EnoughServers x = one("0,20,0," + up + ",1,9,0,9,1");
             round(x, 1, 1);
@@ -101,7 +103,7 @@ public final class RoundEdgesTest {
     }
 
     private static void downWindow() {
-        c.of("DOWN of them and the greatest of these: the greatest, if COUNT is more than that");
+        c.of("DOWN of them and the greatest of these .. the greatest, if COUNT is more than that");
         for (int down = 1; down <= 6; down++) {
             EnoughServers x = one("0,20,0,1," + down + ",9,0,9,1");
             round(x, 9, 9);
@@ -201,6 +203,15 @@ public final class RoundEdgesTest {
             x.set(0, 0, 0);
             for (int count : counts[period - 1]) round(x, 0, count);
         }
+        // What it got in them is not LOST.
+        for (int period = 1; period <= 4; period++) {
+            EnoughServers x = one("0,20,0,1,1,3,0,2,1");
+            round(x, 3, 3);
+            round(x, 6, 6);
+            round(x, 9, 9);
+            x.set(0, 8, period);
+            would(x, 0, 0, 0, 7, 7);
+        }
     }
 
     private static void periodAsItIsNow() {
@@ -237,7 +248,7 @@ public final class RoundEdgesTest {
     private static void percentCutUp() {
         c.of("b times PERCENT by 100 (CUT UP)");
         int[][] rows = {{0, 99, 0}, {1, 1, 2}, {1, 99, 2}, {4, 25, 5}, {4, 26, 6}, {4, 50, 6}, {5, 20, 6}, {5, 21, 7}, {5, 40, 7},
-            {9, 11, 10}, {9, 12, 11}, {9, 99, 18}, {8, 25, 10}, {8, 26, 11}, {8, 24, 10}};
+            {3, 66, 5}, {3, 67, 6}, {9, 11, 10}, {9, 12, 11}, {9, 99, 18}, {8, 25, 10}, {8, 26, 11}, {8, 24, 10}};
         for (int[] row : rows) would(one(row[0] + ",20,0,1,1,0," + row[1] + ",9,1"), 20, 20, 20, row[2], row[2]);
     }
 
@@ -323,6 +334,29 @@ public final class RoundEdgesTest {
         x.set(0, 7, 0);
         would(x, 7, 7, 7, 7, 7);
         round(x, 7, 7);
+    }
+
+    /** 9 servers of which 1 is READY: windows and steps go by all of them. */
+    private static void countNotReady() {
+        c.of("COUNT of a SERVICE: all of both");
+        EnoughServers x = Check.with("h60,6,0,0,2;s1,20,0,1,2,8,0,2,1;t1;");
+        round(x, 9, 9);
+        c.due("READY", x.service(0, 11), 1);
+        would(x, 5, 5, 9, 9, 9);
+        would(x, 10, 10, 10, 10, 10);
+        x.set(0, 4, 1);
+        would(x, 5, 5, 5, 7, 7);
+        would(x, 0, 0, 0, 7, 7);
+        would(x, 9, 9, 9, 9, 9);
+        x.set(0, 5, 3);
+        would(x, 20, 20, 20, 12, 12);
+        x.set(0, 8, 2);
+        // 8 of them are GAINED: b is 1, CEILING 4.
+        would(x, 20, 20, 20, 9, 9);
+        x.set(0, 8, 1);
+        x.set(0, 5, 0);
+        x.set(0, 6, 50);
+        would(x, 20, 20, 20, 14, 14);
     }
 
     private static void dueByLeast() {
@@ -453,6 +487,28 @@ public final class RoundEdgesTest {
         EnoughServers z = three("h60,3,1,0,4;", "2,3,3", "3,9,3", "0,9,0");
         loads(z, 9, 9, 9);
         places(z, 1, 0, 2);
+        EnoughServers other = three("h60,3,1,0,4;", "3,9,3", "2,3,3", "0,9,0");
+        loads(other, 9, 9, 9);
+        places(other, 0, 1, 2);
+    }
+
+    private static void getsByCountNotByReady() {
+        c.of("the less COUNT by DUE");
+        // ROUND 0: 4 and 1, of which 1 and 1 are READY; then 4 of 5 and 1 of 2 (0.8, 0.5), and 4 of 9 and 1 of 2.
+        EnoughServers x = Check.with("h60,6,0,0,4;s1,9,3,1,1,9,0,9,1;t1;s1,9,3,1,1,9,0,9,1;t1;");
+        loads(x, 4, 1);
+        x.round();
+        loads(x, 5, 2);
+        places(x, 1, 0);
+        loads(x, 9, 2);
+        places(x, 0, 1);
+        EnoughServers y = Check.with("h60,6,0,0,4;s1,9,3,1,1,9,0,9,1;t1;s1,9,3,1,1,9,0,9,1;t1;");
+        loads(y, 1, 4);
+        y.round();
+        loads(y, 2, 5);
+        places(y, 0, 1);
+        loads(y, 2, 9);
+        places(y, 1, 0);
     }
 
     private static void getsByNumber() {
@@ -566,6 +622,9 @@ public final class RoundEdgesTest {
 
     private static void spentByCount() {
         c.of("by what it has now: SPENT becomes more by its COUNT");
+        EnoughServers full = Check.with("h5,6,0,0,4;s2,20,0,1,1,9,0,9,1;t1;");
+        round(full, 9, 5);
+        c.due("SPENT, 9 are DUE, but there are 5", full.service(0, 13), 5);
         EnoughServers x = Check.with("h60,6,0,0,4;s2,20,0,1,1,9,0,9,1;t1;s0,20,0,1,1,9,0,9,1;t1;");
         int[] loads = {2, 7, 3, 9};
         int[] spent = {2, 9, 12, 21};

@@ -26,7 +26,9 @@ public final class TextEdgesTest {
         moreThanTwoDigits();
         moreThanTold();
         leastsTogether();
+        leastsOfThisTextAlone();
         emptyInAnyCase();
+        nothingIsLeftOfALongerText();
         inPlaceOfTheOneBefore();
         allStays();
         aByte();
@@ -176,7 +178,7 @@ public final class TextEdgesTest {
     }
 
     private static void serviceNumbers() {
-        c.of("s LEAST , MOST , RANK , UP , DOWN , ADD , PERCENT , DROP , PERIOD ; "
+        c.of("s LEAST , MOST , RANK , UP , DOWN , ADD , PERCENT , DROP , PERIOD ; { MEASURE } "
             + "(0 to 9; 1 to 20, not less than LEAST; 0 to 9; 1 to 6; 1 to 6; 0 to 9; 0 to 99; 0 to 9; 1 to 4)");
         int[] from = {0, 1, 0, 1, 1, 0, 0, 0, 1};
         int[] to = {9, 20, 9, 6, 6, 9, 99, 9, 4};
@@ -205,7 +207,7 @@ public final class TextEdgesTest {
     }
 
     private static void services() {
-        c.of("TEXT: HOUSE SERVICE { SERVICE }. SERVICE (SERVICES 0 on, 4 at most)");
+        c.of("TEXT: HOUSE SERVICE { SERVICE } .. SERVICE (SERVICES 0 on, 4 at most)");
         c.reads(row('h', HOUSE), -112, 1);
         StringBuilder text = new StringBuilder(row('h', HOUSE));
         for (int i = 1; i <= 4; i++) {
@@ -221,7 +223,7 @@ public final class TextEdgesTest {
     }
 
     private static void measures() {
-        c.of("s .. ; { MEASURE }; MEASURE (of a SERVICE 0 on, 3 at most)");
+        c.of("{ MEASURE } .. MEASURE (of a SERVICE 0 on, 3 at most): SORT TARGET ;");
         String text = ONE;
         for (int i = 0; i <= 3; i++) {
             EnoughServers x = Check.with(text + row('s', SERVICE) + "q7;");
@@ -307,6 +309,8 @@ public final class TextEdgesTest {
         c.reads("h36,3,00,00,4;s00,9,00,1,1,00,00,00,1;", 1, 0);
         // Figures so long that a number would wrap around to one that is as told: 4294967301 is 5.
         c.reads("h4294967301,", -101, 2);
+        c.reads("h9,1," + "0".repeat(100) + ",", -105, 2);
+        c.reads("h9,1," + "9".repeat(100) + ",", -105, 2);
         c.reads(ONE + "t4294967301;", -132, 2);
     }
 
@@ -344,6 +348,18 @@ public final class TextEdgesTest {
         c.reads(leasts(1, 0, 1, 0, 1), -100 - placeOfFigures(leasts(1, 0, 1, 0, 1), 5 + 27), 4);
     }
 
+    /** LEASTS of a text that was read before, with a FAULT or without one, are not counted again. */
+    private static void leastsOfThisTextAlone() {
+        c.of("LEASTS of all SERVICES, together");
+        EnoughServers x = new EnoughServers();
+        String[] texts = {leasts(9, 9), leasts(9, 4, 5), leasts(9, 9, 1), leasts(9, 2, 2, 2, 3), leasts(8, 9), leasts(9, 9)};
+        int[] answers = {1, 2, -131, 4, -112, 1};
+        for (int i = 0; i < texts.length; i++) {
+            c.due("house() of " + texts[i], Check.read(x, texts[i]), answers[i]);
+            if (i % 2 == 1) tryOut(x);
+        }
+    }
+
     private static void emptyInAnyCase() {
         c.of("THE TEXT is empty behind reading it in any case.");
         String[] texts = {ONE, "", "x", "h0", ONE + "t1;t1;t1;t1;", "h1,1,0,0,2;s2,", " ".repeat(160)};
@@ -356,6 +372,23 @@ public final class TextEdgesTest {
             c.due("write('h') behind " + texts[i], x.write('h'), 1);
             c.due("a good text behind " + texts[i], Check.read(x, ONE.substring(1)), 1);
             c.due("and nothing", x.house(), -100);
+        }
+    }
+
+    /** A shorter text behind a longer one ends where it ends: no blank and no digit of the longer one is read on. */
+    private static void nothingIsLeftOfALongerText() {
+        c.of("THE TEXT is empty behind reading it in any case.");
+        String[] longer = {" ".repeat(160), "9".repeat(160), "h9" + "9".repeat(158), "h9" + " ".repeat(158), "h9,".repeat(53), ONE + ONE};
+        String[] texts = {"", "h", "h9", "h9,3,1,1,4", "h9,3,1,1,4;s1,9,1,1,1,1,1,1,1", "h9,3,1,1,4;s1,9,1,1,1,1,1,1,1;"};
+        for (String before : longer) {
+            for (String text : texts) {
+                EnoughServers x = new EnoughServers();
+                Check.read(x, before);
+                boolean whole = text.endsWith(";");
+                c.due("'" + text + "' behind '" + before + "'", Check.read(x, text), whole ? 1 : -100 - text.length());
+                c.due("its fault()", x.fault(), whole ? 0 : 1);
+                if (whole) c.due("CAPACITY", x.count(4), 9);
+            }
         }
     }
 
@@ -394,6 +427,8 @@ public final class TextEdgesTest {
         int[] second = {0, 0, -1, 0, 0, 0};
         for (int i = 0; i < 6; i++) c.due("service(0, " + (10 + i) + ")", x.service(0, 10 + i), first[i]);
         for (int i = 0; i < 6; i++) c.due("service(1, " + (10 + i) + ")", x.service(1, 10 + i), second[i]);
+        c.due("MEASURES of 0", x.service(0, 9), 1);
+        c.due("MEASURES of 1", x.service(1, 9), 0);
         c.due("VALUE", x.measure(0, 0, 2), -1);
         c.due("its PAST", x.measure(0, 0, 4), 0);
         c.due("undo()", x.undo(), EnoughServers.NOT);
@@ -409,6 +444,13 @@ public final class TextEdgesTest {
         }
         x.load(0, 1, 30);
         x.set(1, 2, 7);
+        tryOut(x);
+    }
+
+    /** What was only tried must leave nothing for the next HOUSE either. */
+    private static void tryOut(EnoughServers x) {
+        x.would(0, 4);
+        x.ahead(50, 0);
     }
 
     private static void playOne(EnoughServers x, String text) {
@@ -418,6 +460,7 @@ public final class TextEdgesTest {
             x.load(0, 0, load);
             x.round();
         }
+        tryOut(x);
     }
 
     private static void allStays() {

@@ -3,13 +3,11 @@ public final class TriedEdgesTest {
     private static final Check c = new Check();
     private static final int UNKNOWN = EnoughServers.UNKNOWN, OUTSIDE = EnoughServers.OUTSIDE, NONE = EnoughServers.NONE;
     private static final int[] FAR = {Integer.MIN_VALUE, Integer.MAX_VALUE};
-    private static final String THREE =
-        "h14,3,3,1,3;s1,12,3,2,3,4,50,3,3;f5;q4;s0,9,5,1,2,3,99,9,2;a9;s2,4,0,1,1,1,1,1,1;";
-    private static final int[] LOADS = {3, 40, 41, 90, 12, 0, 77, 5, 60, 33, 99, 1, 20};
 
     public static void main(String[] args) {
         wouldBehindStepOne();
         wouldBeAsTheRound();
+        wouldBeOfSixKinds();
         wouldHaveAPlace();
         wouldHaveNoPlace();
         wouldWhat();
@@ -32,8 +30,10 @@ public final class TriedEdgesTest {
         needsLeastValue();
         needsNothing();
         needsOthersStay();
+        needsWithForecasts();
         needsBehindStepOne();
         needsAverageNear();
+        needsAverageNearEachTarget();
         needsTheMost();
         needsBounds();
         unknown();
@@ -44,15 +44,6 @@ public final class TriedEdgesTest {
         EnoughServers x = Check.with(house + "s" + numbers + ";t1;");
         x.load(0, 0, value);
         return x;
-    }
-
-    private static void play(EnoughServers x, int from, int to) {
-        for (int i = from; i < to; i++) {
-            x.load(0, 0, LOADS[i % 13]);
-            x.load(0, 1, LOADS[(i + 5) % 13] / 10);
-            x.load(1, 0, LOADS[(i + 2) % 13] / 3);
-            x.round();
-        }
     }
 
     private static void would(EnoughServers x, int... due) {
@@ -72,9 +63,9 @@ public final class TriedEdgesTest {
 
     private static void wouldBeAsTheRound() {
         c.of("4 COUNT behind the ROUND");
-        EnoughServers x = Check.with(THREE);
+        EnoughServers x = Check.with(Three.TEXT);
         for (int i = 0; i < 13; i++) {
-            play(x, i, i + 1);
+            Three.play(x, i, i + 1);
             int[] would = {x.would(0, 4), x.would(1, 4), x.would(2, 4)};
             int lack = x.service(0, 14);
             int want = x.would(0, 0);
@@ -83,6 +74,19 @@ public final class TriedEdgesTest {
             c.due("LACK by WANT", x.service(0, 14) - lack, Math.max(want - x.service(0, 11), 0));
             x.undo();
         }
+    }
+
+    private static void wouldBeOfSixKinds() {
+        c.of("what = 0 WANT, 1 STEADY, 2 BOUND, 3 DUE, 4 COUNT behind the ROUND, 5 its place (0 on)");
+        // COUNT 2 of 6; WANTS 4, then 9; ADD 1; LEAST 5 told anew; the other SERVICE has filled the house, and is first.
+        EnoughServers x = Check.with("h6,2,0,0,3;s2,9,1,2,1,1,0,9,1;t1;s0,9,5,1,1,9,0,9,1;t1;");
+        x.load(0, 0, 4);
+        x.load(1, 0, 4);
+        x.round();
+        x.load(0, 0, 9);
+        x.load(1, 0, 5);
+        x.set(0, 0, 5);
+        would(x, 9, 4, 3, 5, 2, 1);
     }
 
     private static void wouldHaveAPlace() {
@@ -113,11 +117,18 @@ public final class TriedEdgesTest {
         c.due("place at MOST", x.would(0, 5), NONE);
         EnoughServers y = one("h60,1,0,0,4;", "3,9,1,1,1,0,0,9,1", 9);
         c.due("place without a step", y.would(0, 5), NONE);
+        // All that it lacks are STARTING: COUNT is DUE, READY is not; and the other one is the first.
+        EnoughServers z = Check.with("h60,6,0,0,4;s0,9,9,1,1,9,0,9,1;t1;s0,9,1,1,1,9,0,9,1;t1;");
+        z.load(0, 0, 5);
+        z.round();
+        z.load(1, 0, 2);
+        c.due("place of one whose servers are STARTING", z.would(0, 5), NONE);
+        c.due("place of the other", z.would(1, 5), 0);
     }
 
     private static void wouldWhat() {
         c.of("would .. OUTSIDE");
-        EnoughServers x = Check.with(THREE);
+        EnoughServers x = Check.with(Three.TEXT);
         int[] whats = {-1, -2, 6, 7, FAR[0], FAR[1]};
         for (int what : whats) c.due("would(2, " + what + ")", x.would(2, what), OUTSIDE);
         c.due("would(2, 0)", x.would(2, 0), 2);
@@ -184,7 +195,7 @@ public final class TriedEdgesTest {
     }
 
     private static void whyInTheirOrder() {
-        c.of("what held it, as causes, that of the outer one first; those that are so");
+        c.of("what held it, as causes, that of the outer one first .. those that are so");
         // COUNT 2 of 6; WANTS 4, then 9; ADD 1; LEAST 5 told anew; the other SERVICE has filled the house.
         EnoughServers x = Check.with("h6,2,0,0,3;s2,9,1,2,1,1,0,9,1;t1;s0,9,5,1,1,9,0,9,1;t1;");
         x.load(0, 0, 4);
@@ -241,10 +252,8 @@ public final class TriedEdgesTest {
         int[] played = {0, 1, 5, 20};
         for (int before : played) {
             for (int what = 0; what <= 3; what++) {
-                EnoughServers x = Check.with(THREE);
-                EnoughServers done = Check.with(THREE);
-                play(x, 0, before);
-                play(done, 0, before);
+                EnoughServers x = Three.played(before);
+                EnoughServers done = Three.played(before);
                 int from = what == 1 || what == 2 ? total(done, what) : 0;
                 for (int n = 1; n <= 50; n++) {
                     done.round();
@@ -417,14 +426,36 @@ public final class TriedEdgesTest {
         x.load(0, 1, 31);
         x.load(0, 2, 1);
         // The second wants 7, the queue COUNT: 4.
-        needs(x, 0, 0, 0, 7, 0, 8, 71, 9, 81);
-        needs(x, 1, 4, 0, 5, 21, 7, 31);
+        needs(x, 0, 0, 0, 1, 0, 6, 0, 7, 0, 8, 71, 9, 81);
+        needs(x, 1, 0, 0, 3, 0, 4, 0, 5, 21, 7, 31);
         needs(x, 2, 7, 0, 8, 13);
         x.load(0, 1, -1);
         needs(x, 0, 4, 0, 5, 41);
         c.due("VALUES are what they were", x.measure(0, 0, 2), NONE);
         c.due("VALUES are what they were", x.measure(0, 2, 2), 1);
         c.due("no ACTS", x.count(9), 3);
+    }
+
+    /** COLD 2, SEASON 3; R is 5: ROUND 7 is foreseen by ROUNDS 4 and 1, which had 50 and 21. */
+    private static void needsWithForecasts() {
+        c.of("the others staying, by which WANT of its SERVICE in the ROUND to come is n (0 to 99) or more");
+        EnoughServers x = Check.with("h60,2,0,0,3;s0,20,0,1,1,9,0,9,1;f10;t7;");
+        int[] loads = {90, 21, 99, 99, 50};
+        for (int load : loads) {
+            x.load(0, 0, load);
+            x.load(0, 1, 0);
+            x.round();
+        }
+        x.load(0, 0, 3);
+        c.due("FORECAST by COLD", x.forecast(0, 0, 2), 36);
+        needs(x, 0, 3, 0, 4, 0, 5, 41);
+        needs(x, 1, 3, 0, 4, 0, 5, 29);
+        x.best(0);
+        needs(x, 0, 4, 0, 5, 41);
+        needs(x, 1, 4, 0, 5, 29);
+        x.load(0, 0, -1);
+        c.due("COUNT", x.service(0, 10), 10);
+        needs(x, 1, 10, 0, 11, 71);
     }
 
     private static void needsBehindStepOne() {
@@ -436,6 +467,22 @@ public final class TriedEdgesTest {
         // 4 will be READY: 4 times 25 by 50 is 2; 26 more than 2; near from 45 on COUNT is 4.
         needs(x, 0, 0, 0, 1, 1, 2, 13, 3, 26, 4, 38, 5, 56);
         c.due("READY", x.service(0, 11), 1);
+        // So for an AVERAGE that is one of the others: 4 times 100 by 50.
+        x.load(0, 0, 100);
+        needs(x, 1, 8, 0, 9, 9);
+    }
+
+    /** COUNT 8, READY 3, as far as the TARGET's tenth: 8 are wanted from there on, and 3 below. */
+    private static void needsAverageNearEachTarget() {
+        c.of("The least VALUE .. WANT of its SERVICE");
+        for (int target = 4; target <= 99; target++) {
+            EnoughServers x = Check.with("h60,6,0,0,2;s3,20,0,1,1,9,0,9,1;a" + target + ";t1;");
+            x.load(0, 1, 8);
+            x.round();
+            x.load(0, 1, 0);
+            int near = target - target / 10;
+            needs(x, 0, 8, near, 4, near, 9, (8 * target) / 3 + 1);
+        }
     }
 
     private static void needsAverageNear() {
@@ -485,8 +532,8 @@ public final class TriedEdgesTest {
     }
 
     private static void unknown() {
-        c.of("would, why, until, needs .. UNKNOWN");
-        EnoughServers x = Check.with(THREE);
+        c.of("UNKNOWN -1000001 (no HOUSE; no such SERVICE, MEASURE)");
+        EnoughServers x = Check.with(Three.TEXT);
         int[] services = {-1, 3, 4, FAR[0], FAR[1]};
         for (int s : services) {
             c.due("would(" + s + ", 0)", x.would(s, 0), UNKNOWN);

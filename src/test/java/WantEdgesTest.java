@@ -324,6 +324,14 @@ public final class WantEdgesTest {
         play(x, 0, 0);
         // R is 7: by 0 ROUNDS (5 MISSED), 3, 1; by 1 ROUNDS 6, 4, (2 MISSED).
         forecasts(x, 0, 0, 15);
+        // R is 20, SEASON 6: by 0 ROUNDS 14, 8, 2, of which one MISSED; or one that is not among them.
+        int[] missed = {14, 8, 2, 15, 13, 9, 7, 6, 0, 1, 3, 19};
+        int[] due = {5, 8, 11, 8, 8, 8, 8, 8, 8, 8, 8, 8};
+        for (int i = 0; i < missed.length; i++) {
+            EnoughServers far = Check.with("h60,1,0,0,6;s1,20,0,1,1,9,0,9,1;t99;");
+            for (int r = 0; r < 20; r++) play(far, 0, r == missed[i] ? -1 : r);
+            forecasts(far, 0, due[i]);
+        }
         EnoughServers zero = Check.with("h60,1,0,0,2;s1,20,0,1,1,9,0,9,1;t99;");
         play(zero, 0, 9, 9, 0, 9, 0, 9);
         forecasts(zero, 0, 3);
