@@ -9,7 +9,9 @@ public final class EnoughServers {
 
     private static final int MOST_BYTES = 160, MOST_SERVICES = 4, MOST_MEASURES = 3;
     private static final int MOST_VALUE = 9999, MOST_ACTS = 10, PAST_ROUNDS = 18, MOST_AHEAD = 50;
+    private static final int MOST_FORESEEN = 12, MOST_NEEDED = 99;
     private static final int MOST_WINDOW = 6, MOST_COLD = 6, SEASONS_BACK = 3, REPLAY_CAPACITY = 60;
+    private static final int COSTS_OF_LACK = 5, COSTS_OF_FLUTTER = 3;
 
     /** Numbers of a HOUSE, by their places in its row. */
     private static final int CAPACITY = 0, COLD = 1, POOL = 2, REFILL = 3, SEASON = 4, HOUSE_NUMBERS = 5;
@@ -243,7 +245,7 @@ public final class EnoughServers {
         if (!hasMeasure(service, measure)) {
             return UNKNOWN;
         }
-        if (h < 0 || h > 12) {
+        if (h < 0 || h > MOST_FORESEEN) {
             return OUTSIDE;
         }
         return current.services[service].measures[measure].foresee(current.round, h, current.numbers[SEASON]);
@@ -290,7 +292,7 @@ public final class EnoughServers {
         if (!hasMeasure(service, measure)) {
             return UNKNOWN;
         }
-        if (n < 0 || n > 99) {
+        if (n < 0 || n > MOST_NEEDED) {
             return OUTSIDE;
         }
         Service asked = current.services[service];
@@ -325,8 +327,7 @@ public final class EnoughServers {
         int least = 0;
         for (int u = 1; u <= MOST_WINDOW; u++) {
             for (int d = 1; d <= MOST_WINDOW; d++) {
-                Service then = replayed(service, u, d);
-                int costs = then.spent + 5 * then.lack + 3 * then.flutters;
+                int costs = replayed(service, u, d).costs();
                 if (windows == NONE || costs < least) {
                     windows = 10 * u + d;
                     least = costs;
@@ -874,6 +875,10 @@ public final class EnoughServers {
             }
         }
 
+        private int costs() {
+            return spent + COSTS_OF_LACK * lack + COSTS_OF_FLUTTER * flutters;
+        }
+
         /** Of the plan of a ROUND that is done: the house held it if it has fewer than were DUE. */
         private boolean isHeldBy(int cause) {
             switch (cause) {
@@ -888,6 +893,9 @@ public final class EnoughServers {
 
     /** A MEASURE; its value is NONE while it MISSES. */
     private static final class Measure {
+        /** So many halvings leave one of all VALUES. */
+        private static final int HALVINGS = 14;
+
         private int kind = TOTAL;
         private int target = 1;
         private int value = NONE;
@@ -942,7 +950,7 @@ public final class EnoughServers {
         private int leastUpTo(int last, int n, int count, int ready, int foreseen) {
             int low = 0;
             int high = last;
-            for (int i = 0; i < 14 && low < high; i++) {
+            for (int i = 0; i < HALVINGS && low < high; i++) {
                 int middle = (low + high) / 2;
                 if (wantBy(middle, count, ready, foreseen) >= n) {
                     high = middle;

@@ -440,7 +440,7 @@ public final class ActsEdgesTest {
 
     /** 28 ROUNDS must be kept, so that 18 are left in the PAST when ten are undone. */
     private static void undoBehindManyRounds() {
-        c.of("PAST .. (18 at most); ACTS (10 at most are kept");
+        c.of("PAST .. (18 at most) .. ACTS (10 at most are kept");
         int[] rounds = {7, 8, 17, 18, 19, 30, 33};
         for (int done : rounds) {
             EnoughServers x = Three.played(done);

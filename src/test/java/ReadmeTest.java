@@ -9,8 +9,6 @@ import java.util.Set;
 import java.util.TreeSet;
 import java.util.regex.Matcher;
 import java.util.regex.Pattern;
-import javax.tools.JavaCompiler;
-import javax.tools.ToolProvider;
 
 /** What README.md says of the class is what the class does: its Java is compiled and run, its tables are tried. */
 public final class ReadmeTest {
@@ -79,9 +77,8 @@ public final class ReadmeTest {
             + "public static java.util.List<Integer> answers() {\n"
             + "java.util.List<Integer> answers = new java.util.ArrayList<>();\n" + body + "return answers;\n}\n}\n");
         try {
-            JavaCompiler javac = ToolProvider.getSystemJavaCompiler();
-            int failed = javac.run(null, null, null, "-proc:none", "-cp", System.getProperty("java.class.path"),
-                "-d", folder.toString(), source.toString());
+            int failed = new ProcessBuilder("javac", "-cp", System.getProperty("java.class.path"), "-d", folder.toString(),
+                source.toString()).inheritIO().start().waitFor();
             c.due("the Java of README.md is compiled", failed, 0);
             if (failed != 0) {
                 return List.of();

@@ -240,7 +240,7 @@ public final class RefusalsTest {
 
     /** Any numbers in any state: an exception would end the test. */
     private static void nothingThrows() {
-        c.of("LANGUAGE.md, rule 7: No call may ever throw or fail to end, for any arguments in any state");
+        c.of("7. No call may ever throw or fail to end, for any arguments in any state");
         for (int rounds = 0; rounds <= 40; rounds += 8) {
             for (int a : FAR) {
                 EnoughServers x = Check.with(TEXT);

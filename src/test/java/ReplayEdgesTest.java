@@ -180,7 +180,7 @@ public final class ReplayEdgesTest {
     }
 
     private static void noMovesAhead() {
-        c.of("nothing done ahead: .. FLUTTERS (2)");
+        c.of("nothing done ahead .. FLUTTERS (2)");
         // In the house it gave up in ROUND 0; of 19 ROUNDS the first is not replayed, and the second gets.
         EnoughServers x = Check.with("h60,1,0,0,2;s5,20,0,1,1,9,0,9,1;t1;");
         x.set(0, 0, 0);

@@ -375,7 +375,7 @@ public final class TriedEdgesTest {
     }
 
     private static void untilBounds() {
-        c.of("until .. (1 to 20 ..) .. OUTSIDE");
+        c.of("until .. (1 to 20 .. OUTSIDE");
         EnoughServers x = one("h60,1,0,0,2;", "1,20,0,1,1,9,99,9,1", 20);
         int[] outside = {0, -1, 21, 22, FAR[0], FAR[1]};
         for (int n : outside) c.due("until(0, " + n + ")", x.until(0, n), OUTSIDE);
